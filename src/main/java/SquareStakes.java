@@ -295,7 +295,7 @@ public final class SquareStakes {
     }
 
     /**
-     * The language's rules leave Float.floatToIntBits out, so the bits are put together by hand.
+     * The language's rules leave the library's function for this out, so the bits are put together by hand.
      * Odds, and so their mean, are never below one: no exponent below zero is needed.
      */
     private static int bitsOfOneOrMore(float value) {

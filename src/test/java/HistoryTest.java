@@ -7,6 +7,7 @@ public final class HistoryTest {
     clears();
     undoes();
     undoRestoresAll();
+    undoRestoresStakesThatWereLaidOver();
     keeps();
     restores();
     snapshotHoldsAll();
@@ -115,6 +116,29 @@ public final class HistoryTest {
     x.set(1, 9);
     x.freeze(15, 2);
     x.swap(0, 5);
+  }
+
+  private static void undoRestoresStakesThatWereLaidOver() {
+    SquareStakes x = new SquareStakes();
+    for (int i = 0; i < 10; i++) { x.stake(i % 8, i % 3, i + 1); }
+    String before = Check.stateOf(x);
+    x.keep();
+    layOver(x);
+    check.promise(11);
+    x.undo();
+    x.undo();
+    x.undo();
+    check.due("the stakes", Check.stateOf(x), before);
+    layOver(x);
+    check.promise(13);
+    x.restore();
+    check.due("the stakes of the snapshot", Check.stateOf(x), before);
+  }
+
+  private static void layOver(SquareStakes x) {
+    x.lay(4, 7);
+    x.stake(9, 2, 15);
+    x.stake(8, 1, 16);
   }
 
   private static void keeps() {

@@ -14,6 +14,8 @@ public final class TurnsTest {
     freezes();
     freezeErrors();
     thawing();
+    everyCellThaws();
+    removedStakesAreGone();
     stakes();
     stakeErrors();
     oddsAreFixed();
@@ -308,6 +310,78 @@ public final class TurnsTest {
     check.due("swap(4, 0) then", x.swap(4, 0) >= 0 ? 1 : 0, 1);
     check.due("never below", x.cell(5, 1), 0);
     check.due("freeze again", x.freeze(5, 1), 1);
+  }
+
+  private static void everyCellThaws() {
+    for (int side = 3; side <= 4; side++) {
+      for (int cell = 0; cell < side * side; cell++) {
+        SquareStakes x = new SquareStakes();
+        check.promise(5);
+        x.lay(side, 8);
+        x.freeze(cell, 1);
+        x.swap(cell == 1 ? 2 : 1, 3 == cell ? 4 : 3);
+        check.due("left of " + cell, x.cell(cell, 1), 0);
+        check.promise(2);
+        x.freeze(cell, 6);
+        x.lay(side, 9);
+        check.due("left of " + cell + " behind lay", x.cell(cell, 1), 0);
+        check.due("frozen behind lay", x.count(9), 0);
+      }
+    }
+  }
+
+  /** What was undone or settled must not come back in by the back door. */
+  private static void removedStakesAreGone() {
+    check.promise(11);
+    SquareStakes x = new SquareStakes();
+    x.set(0, 1);
+    x.stake(1, 0, 10);
+    x.pass();
+    x.stake(1, 0, 20);
+    x.undo();
+    check.due("line(1, 3)", x.line(1, 3), 1);
+    check.due("line(1, 4)", x.line(1, 4), 10);
+    check.due("rival(1, 2)", x.rival(1, 2), 0);
+    check.due("rival(1, 3)", x.rival(1, 3), 0);
+    check.due("rival(1, 4)", x.rival(1, 4), 0);
+    check.due("would(0, 1, 2)", x.would(0, 1, 2), 10);
+    check.due("table", x.count(15), 10);
+    check.due("mean", x.meanOddsBits(), 0x3f800000);
+    check.promise(4);
+    x.swap(0, 1);
+    check.due("purse 0", x.rival(0, 0), 100);
+    check.due("purse 1", x.rival(1, 0), 99);
+    check.due("line(1, 3) behind", x.line(1, 3), 0);
+    check.due("line(0, 3) behind", x.line(0, 3), 0);
+    check.due("rival(0, 2) behind", x.rival(0, 2), 0);
+    check.due("rival(0, 4) behind", x.rival(0, 4), 0);
+    check.due("would behind", x.would(0, 1, 2), 0);
+    SquareStakes wrong = new SquareStakes();
+    wrong.set(0, 1);
+    wrong.stake(0, 0, 30);
+    wrong.undo();
+    wrong.swap(0, 1);
+    check.due("no amount of an undone stake in the pot", wrong.count(5), 1);
+    wrong.stake(0, 0, 30);
+    wrong.undo();
+    wrong.lay(3, 0);
+    check.due("nor by lay", wrong.count(5), 1);
+    SquareStakes later = new SquareStakes();
+    later.set(0, 1);
+    later.stake(1, 0, 10);
+    later.stake(1, 0, 20);
+    later.stake(2, 0, 30);
+    later.swap(0, 1);
+    later.stake(1, 0, 5);
+    check.due("rival(0, 4) of one stake", later.rival(0, 4), 0);
+    check.due("rival(1, 4) of one stake", later.rival(1, 4), 5);
+    check.due("would(0, 1, 2) of one stake", later.would(0, 1, 2), 5);
+    check.due("table of one stake", later.count(15), 5);
+    check.due("mean of one stake", later.meanOddsBits(), 0x3f800000);
+    later.swap(0, 1);
+    check.due("purse 0 of settled stakes", later.rival(0, 0), 100 - 60 - 1 + 30);
+    check.due("purse 1 of one stake", later.rival(1, 0), 99);
+    check.due("pot of one stake", later.count(5), 32);
   }
 
   private static void stakes() {
