@@ -582,20 +582,20 @@ public final class SquareStakes {
             size = 0;
         }
 
-        void add(int rival, int line, int kind, int amount, Square square) {
+        void add(int rival, int line, int kind, int amount, int sum, float oddsNow) {
             if (size < 0 || size >= odds.length) {
                 return;
             }
-            odds[size] = oddsFor(line, kind, square);
+            odds[size] = oddsNow;
             putFact(size, RIVAL, rival);
             putFact(size, LINE, line);
             putFact(size, KIND, kind);
             putFact(size, AMOUNT, amount);
-            putFact(size, SUM, square.sumOf(line));
+            putFact(size, SUM, sum);
             size++;
         }
 
-        private static float oddsFor(int line, int kind, Square square) {
+        static float oddsFor(int line, int kind, Square square) {
             if (kind == KIND_MAGIC) {
                 return 1.0f + (float) square.differenceOf(line) / 4.0f;
             }
@@ -819,7 +819,7 @@ public final class SquareStakes {
 
         void layStake(int line, int kind, int amount) {
             changePurse(turn, -amount);
-            table.add(turn, line, kind, amount, square);
+            table.add(turn, line, kind, amount, square.sumOf(line), Table.oddsFor(line, kind, square));
         }
 
         void makeFreeze(int cell, int swaps) {

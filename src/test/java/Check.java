@@ -1,13 +1,36 @@
 /** What the tests share: it counts answers that are not due, and tells a whole object as a text. */
 final class Check {
   private final String name;
-  private int promise = 0;
+  private String place = "";
+  private String latest = "";
   private int made = 0;
   private int wrong = 0;
+  private int madeHere = 1;
 
   Check(String name) { this.name = name; }
 
-  void promise(int number) { promise = number; }
+  void promise(int number) { begin("promise " + number); }
+
+  /** From here on for a sentence of the document, in its own words. */
+  void sentence(String where, String words) {
+    begin(where + ", \"" + words + "\"");
+    madeHere = 0;
+  }
+
+  private void begin(String newPlace) {
+    if (madeHere == 0) { fail("has no answer that is looked at"); }
+    place = newPlace;
+  }
+
+  /** An object whose calls are counted and told. */
+  Parlour open() { return new Parlour(this); }
+
+  void called(String call) { latest = call; }
+
+  /** Of the latest call of an object that open() made. */
+  void due(long got, long want) { due(latest, got, want); }
+
+  void due(float got, float want) { due(latest, got, want); }
 
   void due(String call, long got, long want) { judge(call, got == want, Long.toString(got), Long.toString(want)); }
 
@@ -19,12 +42,17 @@ final class Check {
 
   private void judge(String call, boolean right, String got, String want) {
     made++;
-    if (right) { return; }
+    madeHere++;
+    if (!right) { fail(call + " answered " + got + ", due is " + want); }
+  }
+
+  private void fail(String how) {
     wrong++;
-    if (wrong <= 50) { System.out.println(name + ", promise " + promise + ": " + call + " answered " + got + ", due is " + want); }
+    if (wrong <= 50) { System.out.println(name + ": " + place + ": " + how); }
   }
 
   void end() {
+    begin("end");
     System.out.println(name + ": " + made + " answers, " + wrong + " not as due");
     if (wrong != 0 || made == 0) { System.exit(1); }
   }
