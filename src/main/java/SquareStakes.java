@@ -915,8 +915,8 @@ public final class SquareStakes {
             State oldest = rowAt(0);
             for (int index = 1; index < states.length; index++) {
                 states[index - 1] = states[index];
+                states[index] = oldest;
             }
-            states[states.length - 1] = oldest;
             size--;
         }
     }

@@ -524,6 +524,35 @@ public final class BoundStakesTest {
     x.swap(0, 8); // nothing is settled twice
     check.due(x.rival(0, 0), purse);
     check.due(x.count(5), pot + 1);
+    Parlour right = check.open(); // nor told of one that was right and would be so again
+    right.set(0, 1);
+    right.stake(1, 0, 10);
+    right.swap(0, 1);
+    isNoMore(right);
+    Parlour undone = check.open();
+    undone.stake(1, 0, 10);
+    undone.undo();
+    isNoMore(undone);
+    Parlour second = check.open(); // nor of one behind those that are there
+    second.stake(0, 0, 10);
+    second.stake(1, 0, 20);
+    second.undo();
+    check.due(second.rival(0, 4), 0);
+    check.due(second.would(0, 1, 2), 0);
+    check.due(second.line(1, 3), 0);
+    check.due(second.count(15), 10);
+  }
+
+  private static void isNoMore(Parlour x) {
+    check.due(x.rival(0, 4), 0);
+    check.due(x.would(0, 1, 2), 0);
+    check.due(x.line(1, 3), 0);
+    check.due(x.line(1, 4), 0);
+    check.due(x.rival(0, 2), 0);
+    check.due(x.rival(0, 3), 0);
+    check.due(x.count(15), 0);
+    check.due(x.stakeOf(0, 3), UNKNOWN);
+    check.due(x.odds(0), -1.0f);
   }
 
   private static void squaresMadeMagic() {
