@@ -96,6 +96,7 @@ public final class BoundErrorsTest {
     check.due(x.freeze(0, 1), NOT_POSSIBLE); // ahead of FULL
     check.due(x.freeze(1, 6), NOT_POSSIBLE);
     check.due(x.freeze(2, 1), FULL);
+    // UNKNOWN ahead of NOT_POSSIBLE can be seen in no run: a cell that is not there is not frozen.
   }
 
   private static void orderOfStake() {
@@ -165,7 +166,7 @@ public final class BoundErrorsTest {
     check.due(x.would(0, 1, 3), BAD_VALUE);
   }
 
-  /** Of the other calls no two errors can apply at once. */
+  /** Of the other calls no two errors can apply at once: of set, a value that is there already is in its range. */
   private static void callsOfOneErrorAlone() {
     check.sentence("Errors, lay and set", ORDER);
     Parlour x = check.open();
