@@ -17,6 +17,9 @@ final class Check {
     madeHere = 0;
   }
 
+  /** From here on for a run of calls that belongs to no one sentence. */
+  void run(int number) { begin("run " + number); }
+
   private void begin(String newPlace) {
     if (madeHere == 0) { fail("has no answer that is looked at"); }
     place = newPlace;

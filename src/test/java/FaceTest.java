@@ -31,7 +31,7 @@ public final class FaceTest {
       if (Modifier.isPublic(constructor.getModifiers()) && constructor.getParameterCount() == 0) { constructors++; }
     }
     check.due("public constructors", constructors, 1);
-    check.due("public constructors in all", face.getConstructors().length, 1);
+    check.due("constructors in all", face.getDeclaredConstructors().length, 1);
 
     TreeSet<String> constants = new TreeSet<>();
     for (Field field : face.getFields()) { constants.add(field.getName()); }
@@ -41,7 +41,31 @@ public final class FaceTest {
     check.due("FULL", SquareStakes.FULL, -3);
     check.due("NOT_POSSIBLE", SquareStakes.NOT_POSSIBLE, -4);
     check.due("NONE", SquareStakes.NONE, -5);
+    nothingElseIsOpen(check, face);
     check.end();
+  }
+
+  /** The rule 1 of LANGUAGE.md: all else is private, and no private method bears the name of a public one. */
+  private static void nothingElseIsOpen(Check check, Class<?> face) {
+    TreeSet<String> names = new TreeSet<>();
+    for (Method method : face.getDeclaredMethods()) {
+      if (Modifier.isPublic(method.getModifiers())) { names.add(method.getName()); }
+    }
+    for (Method method : face.getDeclaredMethods()) {
+      int modifiers = method.getModifiers();
+      check.due(told(method) + " is open", Modifier.isPublic(modifiers) || Modifier.isPrivate(modifiers) ? 0 : 1, 0);
+      check.due(told(method) + " bears a public name", Modifier.isPrivate(modifiers) && names.contains(method.getName()) ? 1 : 0, 0);
+    }
+    for (Field field : face.getDeclaredFields()) {
+      int modifiers = field.getModifiers();
+      check.due(field.getName() + " is open", Modifier.isPublic(modifiers) || Modifier.isPrivate(modifiers) ? 0 : 1, 0);
+      check.due(field.getName() + " is no final static", Modifier.isStatic(modifiers) && !Modifier.isFinal(modifiers) ? 1 : 0, 0);
+    }
+    for (Class<?> inside : face.getDeclaredClasses()) {
+      int modifiers = inside.getModifiers();
+      check.due(inside.getName() + " is open", Modifier.isPublic(modifiers) || Modifier.isProtected(modifiers) ? 1 : 0, 0);
+      check.due(inside.getName() + " is static", Modifier.isStatic(modifiers) ? 1 : 0, 1);
+    }
   }
 
   private static String told(Method method) {
