@@ -373,7 +373,7 @@ public final class SquareStakes {
 
         void layFrom(Text text) {
             side = text.sideOfSquare();
-            for (int cell = 0; cell < numbers.length; cell++) {
+            for (int cell = 0; cell < cells() && cell < numbers.length; cell++) {
                 numbers[cell] = text.numberAt(cell);
             }
         }
@@ -950,12 +950,13 @@ public final class SquareStakes {
             length = 0;
         }
 
-        /** A text whose first character is neither a digit nor a letter has a square without cells. */
+        private char characterAt(int index) {
+            return index >= 0 && index < length && index < characters.length ? characters[index] : (char) 0;
+        }
+
+        /** A text whose first character is neither a digit nor a letter, or that has none, has a square without cells. */
         int sideOfSquare() {
-            if (length <= 0) {
-                return 0;
-            }
-            char first = characters[0];
+            char first = characterAt(0);
             if (first >= '1' && first <= '9') {
                 return 3;
             }
@@ -963,11 +964,8 @@ public final class SquareStakes {
         }
 
         int numberAt(int index) {
-            if (index < 0 || index >= length || index >= characters.length) {
-                return 0;
-            }
             char zero = sideOfSquare() == 3 ? '0' : '`';
-            return characters[index] - zero;
+            return characterAt(index) - zero;
         }
 
         int fault() {
