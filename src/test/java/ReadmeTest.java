@@ -36,7 +36,7 @@ public final class ReadmeTest {
 
   /** Where the table tells what can be asked for, that much can be, and no more. */
   private static void theTable() {
-    check.sentence("README", "what it answers, if no error");
+    check.sentence("README", "what it answers");
     Parlour x = check.open();
     x.stake(0, 0, 1);
     for (int what = -1; what <= 16; what++) {
